@@ -13,6 +13,7 @@ public final class PromiseTests {
         feed();
         textNumbers();
         textFaults();
+        textLengths();
         textDepth();
         textMeaning();
         force();
@@ -261,6 +262,9 @@ public final class PromiseTests {
         faultInPrice("99999999999999999999", 0);
         faultInPrice("days", 0);
         faultInPrice("da", 0);
+        faultInPrice("xay", 0);
+        faultInPrice("dayz", 0);
+        faultInPrice("aday", 0);
         faultInPrice("1 + rooms", 4);
         faultInPrice("price", 0);
         faultInPrice("1 2", 2);
@@ -285,10 +289,39 @@ public final class PromiseTests {
         faultInPrice("1 / 2", 2);
         faultInPrice("1 <= 2", 3);
         faultInPrice("not", 3);
+        for (int b = 0; b < 256; b++) {
+            String alone = "" + (char) b;
+            if (!alone.matches("[-(); \\n+*<=a-z0-9]")) {
+                faultInPrice("1 + " + alone, 4);
+                faultInPrice("1 " + alone + " 2", 2);
+                fault(alone + " 1;wets 2;price 3;", 0);
+            }
+        }
         // The first token that can't stand counts, not a byte behind it.
         faultInPrice("1 2 ?", 2);
         stands(price("not not 1 < 2 and not day = 3 or (not 4) * - - 5 - - 6"));
         stands(price("(1 < 2) < 3"));
+    }
+
+    /** Tapes that are full to the last byte. */
+    private static void textLengths() {
+        check.group("promise 7, lengths");
+        fault(";".repeat(160), 0);
+        fault(" ".repeat(160), 160);
+        fault("a".repeat(160), 0);
+        fault("costs " + "1".repeat(154), 6);
+        fault("costs " + "1+".repeat(77), 160);
+        fault("costs 11" + "+1".repeat(76), 160);
+        String full = "costs 1;wets 1;price(1" + "+1".repeat(68) + ");";
+        check.due("a full tape", full.length(), 160);
+        stands(full);
+        stands(price("1") + " ".repeat(160 - price("1").length()));
+        fault(price("1") + " ".repeat(159 - price("1").length()) + ";", 159);
+        WindowsGive x = new WindowsGive();
+        x.pane(PANE, of(0, 0), 0);
+        Checks.textOf(x, full);
+        x.force(1);
+        check.due("all of it counts", x.views(0, 1, 0), 69);
     }
 
     private static void textDepth() {
@@ -694,6 +727,18 @@ public final class PromiseTests {
             together += x.water(1, d);
         }
         check.due("together", x.wettest(1, 1), together);
+        Checks.textOf(x, "costs 1; wets day = 0; price 0;");
+        x.force(1);
+        x.set(2, 1, -9);
+        check.due("day 1 alone", x.wettest(1, 0), 1);
+        x.set(2, 0, -5);
+        Checks.textOf(x, "costs 1; wets day = 5; price 0;");
+        x.force(2);
+        check.due("day 0 alone", x.wettest(1, 0), 0);
+        x.set(2, 0, 0);
+        Checks.textOf(x, "costs 1; wets day = 31; price 0;");
+        x.force(3);
+        check.due("day 31 alone", x.wettest(1, 0), 31);
         check.due("a dry room", x.wettest(3, 0), 0);
         check.due("a dry room, together", x.wettest(3, 1), 0);
         int[][] wrong = {{-1, 0}, {6, 0}, {0, -1}, {0, 2}, {MAX, 0}, {0, MIN}};
