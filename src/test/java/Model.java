@@ -10,8 +10,8 @@ import java.util.Set;
 import java.util.TreeSet;
 
 /**
- * The document once more, written without a look at the class: kinds are classes, sheets are rows of the host's own
- * sorts, messages spread step by step, every set and every way is tried, texts are read by a machine with states.
+ * The document once more, in other ways than the class: kinds are classes, sheets are rows of the host's own sorts,
+ * messages spread step by step, every set and every way is tried, texts are read by a machine with states.
  */
 final class Model {
     static class Pane implements Cloneable {
