@@ -1,50 +1,47 @@
 /** Counts and prints the calls whose answer is not the one that is due. */
 final class Checks {
-    private int wrong;
+    private int passed;
+    private int failed;
     private int asked;
     private String group = "";
 
+    /** Begins a group: what the checks that follow are of. One without a check is a failure. */
     void group(String name) {
+        endGroup();
         group = name;
     }
 
     void due(String call, long got, long want) {
-        asked++;
-        if (got != want) {
-            wrong++;
-            System.out.println(group + ": " + call + " answered " + got + ", due is " + want);
-        }
+        count(got == want, call + " answered " + got + ", due is " + want);
     }
 
     void holds(String what, boolean is) {
+        count(is, what + " does not hold");
+    }
+
+    private void count(boolean right, String told) {
         asked++;
-        if (!is) {
-            wrong++;
-            System.out.println(group + ": " + what + " does not hold");
+        if (right) {
+            passed++;
+        } else {
+            failed++;
+            System.out.println(group + ": " + told);
         }
+    }
+
+    private void endGroup() {
+        if (asked == 0 && !group.isEmpty()) {
+            failed++;
+            System.out.println(group + ": nothing was checked");
+        }
+        asked = 0;
     }
 
     void end() {
-        System.out.println(asked + " checks, " + wrong + " wrong");
-        if (wrong != 0 || asked == 0) {
+        endGroup();
+        System.out.println(passed + " passed, " + failed + " failed");
+        if (failed != 0 || passed == 0) {
             System.exit(1);
         }
-    }
-
-    static void feedAll(WindowsGive x, String text) {
-        for (int i = 0; i < text.length(); i++) {
-            x.feed(text.charAt(i));
-        }
-    }
-
-    /** What text() answers to a tape of just this. */
-    static int textOf(WindowsGive x, String text) {
-        feedAll(x, text);
-        return x.text();
-    }
-
-    /** What of a pane: 100 times its number, and its shift and 9. */
-    static int of(int number, int shift) {
-        return 100 * number + shift + 9;
     }
 }

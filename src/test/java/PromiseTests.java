@@ -1,8 +1,6 @@
 /** Each promise of the document by itself: ordinary inputs, the edges it names, wrong inputs. */
-public final class PromiseTests {
+public final class PromiseTests extends Make {
     private static final Checks check = new Checks();
-    private static final int MAX = Integer.MAX_VALUE, MIN = Integer.MIN_VALUE;
-    private static final int PANE = 0, LAGGING = 1, BRICKED = 2, CRACKED = 3, MIRROR = 4, FEAST = 5;
 
     public static void main(String[] args) {
         newObject();
@@ -39,14 +37,6 @@ public final class PromiseTests {
         weathers();
         taken();
         check.end();
-    }
-
-    private static int of(int number, int shift) {
-        return Checks.of(number, shift);
-    }
-
-    private static int spot(int room, int day) {
-        return 32 * room + day;
     }
 
     private static void newObject() {
@@ -202,31 +192,27 @@ public final class PromiseTests {
         WindowsGive x = new WindowsGive();
         check.due("nothing", x.text(), -100);
         for (int n = 1; n < 6; n++) {
-            check.due("text " + n, Checks.textOf(x, "costs 1;wets 2;price 3;"), n);
+            check.due("text " + n, textOf(x, "costs 1;wets 2;price 3;"), n);
             check.due("the tape is empty", x.count(2), 0);
         }
         check.due("full, with nothing on the tape", x.text(), -4);
-        check.due("full ahead of a fault", Checks.textOf(x, "?"), -4);
+        check.due("full ahead of a fault", textOf(x, "?"), -4);
         check.due("the tape stays", x.count(2), 1);
         check.due("texts", x.count(1), 6);
         WindowsGive y = new WindowsGive();
-        check.due("a fault", Checks.textOf(y, "costs ;"), -106);
+        check.due("a fault", textOf(y, "costs ;"), -106);
         check.due("the tape is empty by a fault", y.count(2), 0);
         check.due("no text came", y.count(1), 1);
     }
 
     private static void fault(String text, int place) {
         WindowsGive x = new WindowsGive();
-        check.due("\"" + text + "\"", Checks.textOf(x, text), -100 - place);
+        check.due("\"" + text + "\"", textOf(x, text), -100 - place);
     }
 
     private static void stands(String text) {
         WindowsGive x = new WindowsGive();
-        check.due("\"" + text + "\"", Checks.textOf(x, text), 1);
-    }
-
-    private static String price(String e) {
-        return "costs 1;wets 1;price " + e + ";";
+        check.due("\"" + text + "\"", textOf(x, text), 1);
     }
 
     private static void faultInPrice(String e, int place) {
@@ -319,7 +305,7 @@ public final class PromiseTests {
         fault(price("1") + " ".repeat(159 - price("1").length()) + ";", 159);
         WindowsGive x = new WindowsGive();
         x.pane(PANE, of(0, 0), 0);
-        Checks.textOf(x, full);
+        textOf(x, full);
         x.force(1);
         check.due("all of it counts", x.views(0, 1, 0), 69);
     }
@@ -358,7 +344,7 @@ public final class PromiseTests {
         x.pane(PANE, of(7, -2), 40);
         x.set(0, 3, 6);
         x.set(0, 5, 1);
-        check.due("\"" + e + "\" stands", Checks.textOf(x, price(e)), 1);
+        check.due("\"" + e + "\" stands", textOf(x, price(e)), 1);
         x.force(1);
         return x.views(5, 1, 0);
     }
@@ -402,7 +388,7 @@ public final class PromiseTests {
         check.due("four digits", value("9999 - 9989"), 10);
         WindowsGive x = new WindowsGive();
         x.pane(FEAST, of(1, 3), 0);
-        Checks.textOf(x, "costs weather + 50 * shift - 299; wets 1 + weather; price 1;");
+        textOf(x, "costs weather + 50 * shift - 299; wets 1 + weather; price 1;");
         x.force(1);
         x.set(0, 6, 9);
         check.due("costs at the least bound", x.cost(spot(0, 0), spot(0, 6), 0), 1);
@@ -416,7 +402,7 @@ public final class PromiseTests {
         check.due("force(1) of none", x.force(1), -2);
         check.due("force(-1)", x.force(-1), -2);
         check.due("force(0)", x.force(0), 0);
-        Checks.textOf(x, "costs 1;wets 1;price 50;");
+        textOf(x, "costs 1;wets 1;price 50;");
         check.due("force(2)", x.force(2), -2);
         check.due("force(MAX)", x.force(MAX), -2);
         check.due("not in force", x.count(3), 0);
@@ -473,7 +459,7 @@ public final class PromiseTests {
         check.due("none", x.cost(spot(2, 3), spot(0, 5), 0), -1);
         check.due("no thing", x.cost(spot(0, 3), spot(1, 5), 2), -1);
         // A pass costs by the day on which it is passed.
-        Checks.textOf(x, "costs 50 - 10 * day; wets 0; price 0;");
+        textOf(x, "costs 50 - 10 * day; wets 0; price 0;");
         x.force(1);
         check.due("waits for cheaper ones", x.cost(spot(0, 0), spot(1, 20), 0), 1 + 18);
         check.due("can't wait", x.cost(spot(0, 0), spot(1, 2), 0), 50);
@@ -572,22 +558,6 @@ public final class PromiseTests {
         for (int[] w : wrong) {
             check.due("brick(" + w[0] + ", " + w[1] + ", ..)", x.brick(w[0], w[1], w[2], w[3]), -2);
         }
-    }
-
-    private static void fill(WindowsGive x, int sheet, int sort, int... values) {
-        x.sheet(sheet, sort, values.length);
-        for (int i = 0; i < values.length; i++) {
-            x.cell(sheet, i, values[i]);
-        }
-    }
-
-    /** Weathers 0 1 2 .. 9 0 1 2 .. */
-    private static WindowsGive countedDays() {
-        WindowsGive x = new WindowsGive();
-        for (int d = 0; d < 32; d++) {
-            x.set(0, d, d % 10);
-        }
-        return x;
     }
 
     private static void seen() {
@@ -708,7 +678,7 @@ public final class PromiseTests {
         check.due("by both", x.water(1, 3), 6);
         check.due("the last day", x.water(1, 31), 1);
         check.due("not where it comes from", x.water(0, 3), 0);
-        Checks.textOf(x, "costs 1; wets 10 * day + window; price 0;");
+        textOf(x, "costs 1; wets 10 * day + window; price 0;");
         x.force(1);
         check.due("told of the day it leaves", x.water(1, 3), 20 + 91);
         check.due("at the bound", x.water(1, 24), 99 + 99);
@@ -727,16 +697,16 @@ public final class PromiseTests {
             together += x.water(1, d);
         }
         check.due("together", x.wettest(1, 1), together);
-        Checks.textOf(x, "costs 1; wets day = 0; price 0;");
+        textOf(x, "costs 1; wets day = 0; price 0;");
         x.force(1);
         x.set(2, 1, -9);
         check.due("day 1 alone", x.wettest(1, 0), 1);
         x.set(2, 0, -5);
-        Checks.textOf(x, "costs 1; wets day = 5; price 0;");
+        textOf(x, "costs 1; wets day = 5; price 0;");
         x.force(2);
         check.due("day 0 alone", x.wettest(1, 0), 0);
         x.set(2, 0, 0);
-        Checks.textOf(x, "costs 1; wets day = 31; price 0;");
+        textOf(x, "costs 1; wets day = 31; price 0;");
         x.force(3);
         check.due("day 31 alone", x.wettest(1, 0), 31);
         check.due("a dry room", x.wettest(3, 0), 0);
@@ -768,7 +738,7 @@ public final class PromiseTests {
         check.due("too few", x.views(29, 4, 0), -1);
         check.due("too few, panes", x.views(29, 4, 1), -1);
         check.due("two look on day 29", x.views(29, 2, 1), 13);
-        Checks.textOf(x, "costs 1; wets 1; price 98 + window;");
+        textOf(x, "costs 1; wets 1; price 98 + window;");
         x.force(1);
         check.due("at the bound", x.views(10, 2, 0), 198);
         check.due("at the bound, the first", x.views(10, 2, 1), 23);
@@ -844,7 +814,7 @@ public final class PromiseTests {
         check.group("promises 23, 24");
         WindowsGive x = new WindowsGive();
         check.due("no image", x.back(), -3);
-        Checks.textOf(x, "costs 1;wets 1;price 1;");
+        textOf(x, "costs 1;wets 1;price 1;");
         x.pane(PANE, of(1, 2), 34);
         x.set(0, 4, 5);
         check.due("image", x.image(), 1);
@@ -855,7 +825,7 @@ public final class PromiseTests {
         x.set(4, 0, 1);
         x.force(1);
         x.pane(MIRROR, of(0, 0), 0);
-        Checks.textOf(x, "costs 2;wets 2;price 2;");
+        textOf(x, "costs 2;wets 2;price 2;");
         x.feed(50);
         x.sheet(0, 0, 3);
         check.due("back", x.back(), 1);
@@ -895,10 +865,10 @@ public final class PromiseTests {
         x.pane(PANE, 9, 0);
         x.set(0, 0, 9);
         x.set(0, 31, 8);
-        Checks.textOf(x, "costs 1;wets 1;price 1;");
-        Checks.textOf(x, "costs 1;wets 1;price 1;");
+        textOf(x, "costs 1;wets 1;price 1;");
+        textOf(x, "costs 1;wets 1;price 1;");
         x.force(2);
-        Checks.feedAll(x, "abc");
+        feedAll(x, "abc");
         int[] due = {2, 3, 3, 2, 17};
         for (int what = 0; what < 5; what++) {
             check.due("count(" + what + ")", x.count(what), due[what]);
