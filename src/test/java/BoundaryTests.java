@@ -294,6 +294,14 @@ public final class BoundaryTests extends Make {
         check.due("a feast to no day", x.earliest(spot(3, 1), 5, 2), 0);
         check.due("no feast is left", x.earliest(spot(3, 31), 5, 2), -1);
         check.due("the last feast", x.earliest(spot(3, 30), 5, 2), 0);
+        check.group("EARLIEST: by no pane of a ROOM to which it does not come");
+        for (int kind : new int[] {PANE, LAGGING, FEAST}) {
+            WindowsGive far = paneOf(kind, kind == FEAST ? 0 : 1, -1, 12);
+            check.due("earliest, kind " + kind, far.earliest(0, 2, 0), -1);
+            check.due("spots, kind " + kind, far.spots(0, 0), 32);
+            check.due("brick, kind " + kind, far.brick(0, spot(2, 31), 0, 0), 0);
+            check.due("panes, kind " + kind, far.panes(0, spot(2, 31), 0, 0), -1);
+        }
         check.group("EARLIEST: day 31, day 0");
         WindowsGive y = paneOf(PANE, 0, 9, 1);
         check.due("day 31", y.earliest(spot(0, 22), 1, 0), 31);
@@ -326,6 +334,21 @@ public final class BoundaryTests extends Make {
         back.set(2, 0, -9);
         check.due("day 31, from far", back.loop(31, 0), 1);
         check.due("day 0, from far", back.loop(0, 0), 1);
+        check.group("COMES BACK: by waiting till any day");
+        WindowsGive feasts = paneOf(FEAST, 9, -1, 33);
+        for (int day = 0; day < 32; day++) {
+            // Those of days 10, 20 and 30 give ten days back.
+            check.due("day " + day, feasts.loop(spot(3, day), 2), day < 31 ? 1 : -1);
+        }
+        check.group("COMES BACK: not from the last DAY of the ROOM ahead");
+        for (int room = 1; room < 6; room++) {
+            WindowsGive ahead = paneOf(PANE, 0, 9, 10 * room + room - 1);
+            check.due("room " + room, ahead.loop(spot(room, 0), 0), -1);
+        }
+        check.group("COMES BACK: by no pane to which it does not come");
+        WindowsGive away = paneOf(PANE, 0, 0, 10);
+        check.due("a pane leads there", away.loop(0, 0), -1);
+        check.due("a pane leads there, day 31", away.loop(31, 1), -1);
         check.group("COMES BACK: NONE");
         back.set(2, 0, 1);
         check.due("onward alone", back.loop(0, 0), -1);
@@ -605,6 +628,12 @@ public final class BoundaryTests extends Make {
         check.due("the most", x.wettest(1, 0), 30);
         check.due("together", x.wettest(1, 1), 13);
         check.due("another room", x.wettest(0, 0), 0);
+        check.group("WETTEST: each DAY may be it");
+        for (int d = 0; d < 32; d++) {
+            WindowsGive y = paneOf(CRACKED, 0, 0, 5);
+            y.set(0, d, 1);
+            check.due("day " + d, y.wettest(5, 0), d);
+        }
     }
 
     private static void views() {

@@ -32,7 +32,10 @@ final class Probe {
         return name + "(" + list.substring(1, list.length() - 1) + ")";
     }
 
-    /** Some 300 answers that tell all of the state (of sheets up to 14 items); the object is used up by them. */
+    /**
+     * Up to some 350 answers that tell all of the state (of sheets up to 14 items). An object that has had 150 calls
+     * stays under 512 by them; it is of no further use.
+     */
     static List<Long> of(WindowsGive x) {
         Probe probe = new Probe(x);
         probe.house();

@@ -156,6 +156,11 @@ public final class RefusalTests extends Make {
             boolean is = rooms >= 0 && rooms < 60 && rooms % 10 <= 5;
             check.holds("pane(0, 9, " + rooms + ")", new WindowsGive().pane(0, 9, rooms) == (is ? 0 : BAD));
         }
+        check.group("Quotients are cut toward 0: what lies below 0 is no NUMBER 0, no ROOM 0");
+        for (int low : new int[] {-1, -9, -10, -18, -82, -91, -99, -100}) {
+            refused(BAD, "pane", 0, low, 0);
+            refused(BAD, "pane", 0, 9, low);
+        }
         in(RefusalTests::eightPanes);
         check.group("promise 3, pane: FULL");
         refused(FULL, "pane", 0, 9, 0);

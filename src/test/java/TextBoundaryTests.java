@@ -109,13 +109,19 @@ public final class TextBoundaryTests extends Make {
             standsAs(name);
             standsAs("1 +" + name);
             String less = name.substring(0, name.length() - 1);
-            for (String other : List.of(name + "s", "a" + name, less, name.substring(1), less + "z", name + name)) {
+            for (String other : List.of(name + "s", name + "z", "a" + name, less, name.substring(1), less + "z",
+                    "z" + name.substring(1), name + name)) {
                 faultIn("1 + " + other, 4);
                 faultIn("1 " + other, 2);
             }
         }
         for (char letter = 'a'; letter <= 'z'; letter++) {
             faultIn("" + letter, 0);
+        }
+        for (String key : List.of("costs", "wets", "price")) {
+            fault("z" + key.substring(1) + " 1;", 0);
+            fault(key + "z 1;", 0);
+            fault(key.substring(0, key.length() - 1) + " 1;", 0);
         }
         check.group("a KEY that can't stand there");
         for (String key : KEYS) {
@@ -493,6 +499,22 @@ public final class TextBoundaryTests extends Make {
             check.due("each is kept, " + n, x.views(0, 1, 0), 10 + n);
         }
         check.due("force of no text", x.force(6), -2);
+        check.group("6 TEXTS, long ones");
+        // Each 89 bytes: five of them, and what is asked of them, stay under 512 calls.
+        WindowsGive y = paneOf(MIRROR, 0, 0, 0);
+        for (int n = 1; n < 6; n++) {
+            check.due("text " + n, textOf(y, price(n + "+1".repeat(33))), n);
+        }
+        for (int n = 1; n < 6; n++) {
+            y.force(n);
+            check.due("all of text " + n, y.views(0, 1, 0), n + 33);
+        }
+        check.group("a long TEXT behind a FAULT");
+        WindowsGive z = paneOf(MIRROR, 0, 0, 0);
+        check.due("a fault", textOf(z, "costs 1" + "+1".repeat(70) + "+"), -248);
+        check.due("a text", textOf(z, price("1" + "+1".repeat(60))), 1);
+        z.force(1);
+        check.due("all of it", z.views(0, 1, 0), 61);
     }
 
     private static void emptyAfter() {
